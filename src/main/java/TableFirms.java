@@ -1098,7 +1098,7 @@ public final class TableFirms {
         }
 
         /** Leaves who goes in bestMan, too: the outermost search ends last, so that its man stays. */
-        int greatestWorth(int firm, int d, int depth) {
+        private int greatestWorth(int firm, int d, int depth) {
             int chosen = NONE;
             int greatest = 0;
             for (int one = 0; one < spare.men; one++) {

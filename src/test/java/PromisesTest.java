@@ -224,6 +224,8 @@ public final class PromisesTest {
         fault("t13,1;c0,0;", 1, 2);
         fault("t99,9;c0,0;", 1, 2);
         fault("t004,1;c0,0;", 1, 1);
+        fault("t0004,1;c0,0;", 1, 1);
+        fault("t00000000000000000004,1;c0,0;", 1, 1);
         fault("t,1;c0,0;", 1, 1);
         fault("t4;1;c0,0;", 2, 1);
         fault("t4,0;c0,0;", 3, 2);
@@ -291,6 +293,8 @@ public final class PromisesTest {
         due("pips(1, 0)", x.pips(1, 0), 1);
         due("restore(0), where images stay", x.restore(0), 1);
         due("count(1)", x.count(1), 8);
+        due("table() of those at home", tell(x, "t6,2;c0,5;c0,4;"), 2);
+        due("may(6), behind tables of men who were not", x.may(6), 3);
     }
 
     private static void undoing() {
@@ -427,6 +431,7 @@ public final class PromisesTest {
         for (int cube = 4; cube <= 64; cube = 2 * cube) {
             x.play(1);
             due("twice()", x.twice(), cube);
+            due("twice() at once", x.twice(), STATE);
         }
         due("stand(2)", x.stand(2), 0);
         x.play(1);
@@ -680,6 +685,8 @@ public final class PromisesTest {
         due("race(0), a partner alone", told("t6,2;p0,0;").race(0), NONE);
         due("race(0), the other one is not there", told("t12,4;o0,0;c1,3;c1,3;").race(0), 4);
         due("race(0), a blot has nobody to hit", told("t12,4;b0,1;c1,7;").race(0), NONE);
+        due("race(1), a blot has nobody to hit", told("t12,4;c0,3;b1,9;").race(1), NONE);
+        due("race(1), a clerk on that way", told("t12,4;c0,3;c1,9;").race(1), 2);
         due("race(0), from the bar", told("t12,4;o0,12;").race(0), 5);
     }
 
@@ -709,6 +716,14 @@ public final class PromisesTest {
         // the other firm's street at 4 is not there: (3 * 6 + 4 + 5 + 6) of 36
         x = told("t6,4;c0,2;c1,4;c1,4;");
         chance(x, 2, 11, 12);
+        // only by 1 he comes home; by each other throw none can go, and a turn is gone
+        x = told("t4,1;c0,2;");
+        chance(x, 1, 0, 1);
+        chance(x, 2, 1, 6);
+        chance(x, 3, 11, 36);
+        x = told("t12,4;c0,3;b1,9;");
+        due("chance(1, 2, 0), a blot has nobody to hit", x.chance(1, 2, 0), 0);
+        due("chance(1, 2, 1)", x.chance(1, 2, 1), 1);
         x.lay(0, 6);
         chance(x, 1, 0, 1);
         x = told("t4,1;c0,3;c1,3;");
@@ -819,6 +834,11 @@ public final class PromisesTest {
         due("drawn(60, 1, 0)", x.drawn(60, 1, 0), 1);
         x.play(1);
         due("drawn(9, 5, 1), won", x.drawn(9, 5, 1), 1);
+        x = told("t6,2;p0,0;c1,0;c0,0;r1,5;");
+        x.lay(2, 6);
+        x.lay(3, 0);
+        x.play(6);
+        due("drawn(1, 1, 1), one of FIRM 1 off", x.drawn(1, 1, 1), 2);
     }
 
     private static void images() {
@@ -952,6 +972,10 @@ public final class PromisesTest {
         due("count(8) without a table", new TableFirms().count(8), BAD);
         x.drop(3);
         due("count(0)", x.count(0), 1);
+        x.lay(3, 1);
+        x.play(6);
+        due("count(3), two firms'", x.count(3), 2);
+        due("count(4)", x.count(4), 0);
     }
 
     private static void statuses() {
