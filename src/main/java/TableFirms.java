@@ -1156,11 +1156,12 @@ public final class TableFirms {
 
         long waysToWin(Board live, int firm, int n) {
             leaveAlone(live, firm);
-            return winsWithin(firm, n);
+            return winsWithin(spare, firm, n);
         }
 
-        private long winsWithin(int firm, int n) {
-            if (spare.hasWon(firm)) {
+        /** A function that calls itself is static: LANGUAGE.md, rule 8. */
+        private static long winsWithin(Board board, int firm, int n) {
+            if (board.hasWon(firm)) {
                 return power(FACES, n);
             }
             if (n <= 0) {
@@ -1168,14 +1169,14 @@ public final class TableFirms {
             }
             long wins = 0;
             for (int d = 1; d <= FACES; d++) {
-                int chosen = spare.chosenByRule(firm, d);
+                int chosen = board.chosenByRule(firm, d);
                 if (chosen == NONE) {
-                    wins += winsWithin(firm, n - 1);
+                    wins += winsWithin(board, firm, n - 1);
                 } else {
-                    int from = spare.places[chosen];
-                    spare.go(chosen, d);
-                    wins += winsWithin(firm, n - 1);
-                    spare.put(chosen, from);
+                    int from = board.places[chosen];
+                    board.go(chosen, d);
+                    wins += winsWithin(board, firm, n - 1);
+                    board.put(chosen, from);
                 }
             }
             return wins;
