@@ -216,6 +216,15 @@ public final class ActEdgesTest extends Edges {
             move(4, 1) = BAD    move(2, 7) = BAD      # ahead of STATE
             count(2) = 3
             """);
+        edge(11, "a TURN by a THROW, by RULE, or with a MAN told;", """
+            tell(t8,2;c0,0;c0,3;) = 2
+            move(1, 1) = 4    # by RULE the other would go
+            play(1) = NONE
+            play(1) = 0
+            count(6) = 3  count(2) = 3
+            undo() = 2  undo() = 1  undo() = 0
+            play(1) = 0
+            """);
         edge(11, "he CAN not", """
             tell(t6,2;c0,0;c0,6;c1,1;c1,1;) = 4
             move(0, 3) = STATE   # the other is on THE BAR

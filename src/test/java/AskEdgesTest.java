@@ -100,6 +100,21 @@ public final class AskEdgesTest extends Edges {
             trace(0) = 23  trace(1) = 20  trace(2) = 14  trace(3) = 13  trace(4) = 10  trace(5) = NONE
             ask(2, 1) = 6
             """);
+        edge(34, "else that of the nearest KIND that it is, too, else the one that is lent;", """
+            tell(t4,1;c0,0;r0,0;o0,0;p0,0;b0,0;) = 5
+            ask(2, 0) = -993  trace(0) = 11   # an old one has no SIZE of his own: that of CLERKS
+            ask(4, 1) = 196   trace(0) = 23   # a blot has no MARK of his own: that of PARTNERS
+            """);
+        edge(34, "SIZE, MARK within others are asked of the same MAN anew.", """
+            tell(t4,1;r0,3;o0,3;b0,3;) = 3
+            ask(0, 0) = -3    trace(3) = 24   # MARK of a RUNNER within 11 of CLERKS
+            ask(1, 0) = -997  trace(2) = 22   # MARK of an OLD one
+            ask(2, 1) = 200   trace(2) = 14   # SIZE of a BLOT within 23 of PARTNERS
+            """);
+        edge(34, "1 MARK: 20 lent to all MEN: the number.", """
+            tell(t4,1;c0,0;c0,0;c0,0;c0,0;c0,0;c0,0;c0,0;p1,0;) = 8
+            ask(0, 1) = 1  ask(6, 1) = 7  ask(7, 1) = 106
+            """);
         edge(34, "10 lent to all MEN: PIPS", """
             tell(t4,1;c0,3;r0,3;p0,3;c1,0;) = 4
             play(1) = 0  play(4) = 3

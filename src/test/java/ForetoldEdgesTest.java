@@ -1,6 +1,7 @@
 /** Edges of section 3, what is foretold and what was: promises 22, 23 and 25 to 29. */
 public final class ForetoldEdgesTest extends Edges {
     public static void main(String[] args) {
+        nothingChanges();
         best();
         race();
         cast();
@@ -9,6 +10,20 @@ public final class ForetoldEdgesTest extends Edges {
         chance();
         drawn();
         end(22, 23, 25, 26, 27, 28, 29);
+    }
+
+    /** Behind each edge all is as it is without its calls that only tell; here they are all. */
+    private static void nothingChanges() {
+        edge(22, "FORETOLD (nothing changes).", """
+            tell(t8,3;c0,1;r0,1;o0,4;p1,6;b1,6;c1,3;) = 6
+            play(2) = 0  twice() = 2  lay(1, 0) = 1  image(1) = 1  ask(1, 0) = -14  feed(99) = 1
+            fill(0, 0, 3, 0, 4, 6, 6, 3) = 6
+            may(1) = 32  whither(5, 5) = 3  shots(0) = 32  enter(1) = 126  pips(0, 0) = 17  pips(0, 1) = 6
+            best(5, 2, 0) = 5  best(6, 1, 0) = 5  race(0) = NONE  race(1) = 6  safe(1) = 24
+            cast(0, 0) = 0  played(5, 0, 0) = 0  kinds(5, 5, 0, 0) = 0
+            chance(0, 3, 0) = 0  chance(1, 3, 1) = 1  drawn(1, 5, 1) = 0  drawn(60, 5, 1) = 15
+            count(2) = 1  count(4) = 1  count(6) = 3  stand(0) = 1  man(5, 1) = 8  trace(0) = 12
+            """);
     }
 
     private static void best() {
@@ -40,7 +55,6 @@ public final class ForetoldEdgesTest extends Edges {
             best(1, 1, 0) = NONE  best(1, 1, 1) = -24
             best(1, 2, 0) = NONE  best(1, 2, 1) = -144
             """);
-        // by 1 the other's 4 PIPS are: 3, 2 and a HIT, 1 and a HIT .. reckoned by each throw
         edge(22, "the greatest WORTH to that one by e 0 behind a move of its, all six together, with the sign changed;", """
             tell(t4,1;c0,0;c1,3;) = 2
             best(1, 0, 1) = 1
@@ -60,6 +74,14 @@ public final class ForetoldEdgesTest extends Edges {
     }
 
     private static void race() {
+        edge(22, "depth e (0 to 2)", """
+            tell(t4,4;c0,3;c1,3;) = 2
+            best(1, -1, 1) = BAD
+            best(1, 0, 1) = 4
+            best(1, 1, 1) = 6    # 3, 2, 1 PIPS of FIRM 1, and by 4 to 6 it is OFF
+            best(1, 2, 1) = 36
+            best(1, 3, 1) = BAD
+            """);
         edge(23, "RACE; NONE. BAD; STATE: no TABLE (ahead of BAD), it has no MEN (behind BAD).", """
             race(0) = STATE  race(-1) = STATE  race(2) = STATE
             tell(t4,1;c0,3;) = 1
@@ -285,6 +307,12 @@ public final class ForetoldEdgesTest extends Edges {
             drawn(1, 127773, 0) = 4  drawn(2, 127773, 0) = 0  drawn(3, 127773, 0) = 5   # 4, 4, 5
             drawn(1, 127774, 0) = 4  drawn(2, 127774, 0) = 0  drawn(3, 127774, 0) = 8   # 4, 4, 3: one is HIT
             drawn(0, 999999, 0) = 0  drawn(1, 999999, 0) = 3  drawn(2, 999999, 0) = -2  drawn(3, 999999, 0) = 2  drawn(4, 999999, 0) = -2
+            """);
+        // below 127774 the rest of X by 6 is that of the SEED
+        edge(29, "the THROW is 1 more than the rest of X by 6", """
+            tell(t12,4;c0,0;) = 1
+            drawn(1, 6, 0) = -11  drawn(1, 1, 0) = -10  drawn(1, 2, 0) = -9
+            drawn(1, 3, 0) = -8   drawn(1, 4, 0) = -7   drawn(1, 5, 0) = -6
             """);
         edge(29, "GAMES of n TURNS (0 to 60)", """
             tell(t12,1;c0,0;c1,11;c0,0;c1,11;c0,0;c1,11;c0,0;c1,11;) = 8

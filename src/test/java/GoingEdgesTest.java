@@ -52,6 +52,14 @@ public final class GoingEdgesTest extends Edges {
     }
 
     private static void strides() {
+        edge(18, "FIRM 0 goes up, FIRM 1 down.", """
+            tell(t4,1;c0,0;c1,3;c0,2;c1,1;) = 4
+            whither(0, 1) = 1  whither(1, 1) = 2  whither(2, 1) = 3  whither(3, 1) = 0
+            whither(2, 2) = NONE  whither(3, 2) = NONE
+            tell(t4,1;c0,4;c1,4;) = 2
+            whither(0, 1) = 0  whither(0, 4) = 3  whither(0, 5) = NONE
+            whither(1, 1) = 3  whither(1, 4) = 0  whither(1, 5) = NONE
+            """);
         edge(18, "By a THROW (1 to 6) a clerk goes so many; a runner 1 more; an old one half of it (what is over counts as a whole one);", """
             tell(t12,1;c0,0;r0,0;o0,0;c1,11;r1,11;o1,11;c0,12;r0,12;) = 8
             lay(6, 1) = 12  lay(7, 1) = 12
