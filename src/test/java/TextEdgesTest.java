@@ -192,6 +192,14 @@ public final class TextEdgesTest extends Edges {
             tell(t4,1;c) = fault@6  tell(t4,1;c0) = fault@7  tell(t4,1;c0,) = fault@8  tell(t4,1;c0,0) = fault@9
             tell(t) = fault@1     fault() = 1
             """);
+        edge(7, "The tape, empty then", """
+            tell(t4,1;c0,0;c1,0;) = 2   # what is read no more cannot go on behind a shorter text
+            tell(t4,1;c0,0;c1,0) = fault@14  tell(t4,1;c0,0;c1,) = fault@13  tell(t4,1;c0,0;c1) = fault@12
+            tell(t4,1;c0,0;c) = fault@11     tell(t4,1;c0,0;) = 1
+            tell(t4,1;c0,0) = fault@9   tell(t4,1;c0,) = fault@8  tell(t4,1;c0) = fault@7  tell(t4,1;c) = fault@6
+            tell(t4,1;) = fault@5  tell(t4,1) = fault@4  tell(t4,) = fault@3  tell(t4) = fault@2  tell(t) = fault@1
+            table() = fault@0      fault() = 1
+            """);
         edge(7, "FAULTS, the first TOKEN that has one (its first byte), of one TOKEN the least:", """
             tell(t3,9;c0,0;) = fault@1   fault() = 2   # POINTS, ahead of HOME
             tell(t4,9;x) = fault@3       fault() = 2   # HOME, ahead of what cannot stand there
@@ -228,7 +236,7 @@ public final class TextEdgesTest extends Edges {
             """);
         edge(7, "all else stays", """
             tell(t5,2;c0,1;r1,4;) = 2
-            play(1) = 0  twice() = 2  image(0) = 1  fill(0, 0, 2, 3) = 2  drop(7) = NULL  ask(1, 0) = -11
+            play(1) = 0  image(1) = 1  twice() = 2  image(0) = 1  fill(0, 0, 2, 3) = 2  drop(7) = NULL  ask(1, 0) = -11
             tell(t9,9;) = fault@3  tell(t4,1;c0,0;c1,) = fault@13  tell() = fault@0  tell(t4,1;c0,0;c1,9;) = fault@13
             count(0) = 1  count(1) = 2  count(2) = 1  count(5) = 5  count(6) = 2
             stand(0) = 1  stand(1) = 2  stand(2) = 0
