@@ -548,7 +548,9 @@ public final class TableFirms {
         private final int[] items = new int[ROWS * MOST_ITEMS];
 
         Rows() {
-            Arrays.fill(lanes, MISSING);
+            for (int row = 0; row < ROWS; row++) {
+                lanes[row] = MISSING;
+            }
         }
 
         boolean isMissing(int row) {
@@ -1266,50 +1268,51 @@ public final class TableFirms {
 
         int answerOf(Board board, int one, int what) {
             left = 0;
-            return anew(board, one, what, 0);
+            return anew(this, board, one, what, 0);
         }
 
-        private int anew(Board board, int one, int what, int depth) {
+        private static int anew(Asks asks, Board board, int one, int what, int depth) {
             int kind = board.kindsTold[one];
             int told = bodyTold(what, kind);
             for (int step = 0; step < KINDS && told == 0; step++) {
                 kind = KIND_ABOVE[kind];
                 told = bodyTold(what, kind);
             }
-            return begun(board, one, told, depth);
+            return begun(asks, board, one, told, depth);
         }
 
         private static int bodyTold(int what, int kind) {
             return what == ASK_SIZE ? SIZE_BODIES[kind] : MARK_BODIES[kind];
         }
 
-        private int begun(Board board, int one, int body, int depth) {
+        /** A function that calls itself is static: LANGUAGE.md, rule 8. */
+        private static int begun(Asks asks, Board board, int one, int body, int depth) {
             if (depth > DEEPEST_BODY) {
                 return 0;
             }
-            leave(body);
+            asks.leave(body);
             int next = depth + 1;
             switch (body) {
                 case 10:
                     return board.pipsOf(one);
                 case 11:
-                    return begun(board, one, 10, next) + anew(board, one, ASK_MARK, next);
+                    return begun(asks, board, one, 10, next) + anew(asks, board, one, ASK_MARK, next);
                 case 12:
-                    return -begun(board, one, 11, next);
+                    return -begun(asks, board, one, 11, next);
                 case 13:
-                    return begun(board, one, 10, next) - 100;
+                    return begun(asks, board, one, 10, next) - 100;
                 case 14:
-                    return 2 * begun(board, one, 13, next);
+                    return 2 * begun(asks, board, one, 13, next);
                 case 20:
                     return one;
                 case 21:
-                    return begun(board, one, 20, next) + board.cube;
+                    return begun(asks, board, one, 20, next) + board.cube;
                 case 22:
-                    return begun(board, one, 21, next) - 1000;
+                    return begun(asks, board, one, 21, next) - 1000;
                 case 23:
-                    return begun(board, one, 20, next) - anew(board, one, ASK_SIZE, next);
+                    return begun(asks, board, one, 20, next) - anew(asks, board, one, ASK_SIZE, next);
                 case 24:
-                    return 2 * begun(board, one, 21, next);
+                    return 2 * begun(asks, board, one, 21, next);
                 default:
                     return 0;
             }
